@@ -3,6 +3,7 @@ public final class RulesTest {
     public static void main(String[] args) {
         Due due = new Due();
         usesWithoutDefs(due);
+        usesOfSeveralImports(due);
         repeatedDefs(due);
         pairs(due);
         badTexts(due);
@@ -32,6 +33,19 @@ public final class RulesTest {
         due.same("not through another file", house.look(2), 2);
         house.put(2, 0, Due.imports(1));
         due.same("an IMPORT's IMPORT does not count", house.find(0, 0), 0);
+    }
+
+    private static void usesOfSeveralImports(Due due) {
+        FindingHouse house = new FindingHouse();
+        house.put(0, 0, Due.def(1));
+        house.put(2, 0, Due.def(2));
+        Due.tell(house, 4, Due.use(1), Due.use(2));
+        due.same("neither IMPORTED", house.look(2), 2);
+        house.put(4, 0, Due.imports(0));
+        due.isFinding(house, 0, 0, 4, 2, 3, 3);
+        due.same("one IMPORTED", house.look(2), 1);
+        house.put(4, 3, Due.imports(2));
+        due.same("both IMPORTED", house.look(2), 0);
     }
 
     private static void repeatedDefs(Due due) {

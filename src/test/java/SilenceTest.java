@@ -96,8 +96,12 @@ public final class SilenceTest {
         house.silence(1, 9, 9);
         house.put(3, 1, Due.CLOSE);
         due.same("SILENCED", house.look(3), 0);
+        house.put(3, 0, 255);
+        due.same("SILENCED one CHANGE later", house.look(3), 0);
+        due.same("since(0, 0) one CHANGE later", house.since(0, 0), 1);
+        house.cut(3, 0);
         house.cut(3, 1);
-        due.same("there again", house.finding(1, 4), 4);
+        due.same("there again", house.finding(1, 4), 6);
         isSilenced(due, house, 1, 0, -1);
     }
 

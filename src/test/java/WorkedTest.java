@@ -4,6 +4,7 @@ public final class WorkedTest {
         Due due = new Due();
         importersOfOtherDefs(due);
         theSetCountsNotTheLines(due);
+        eachImportCounts(due);
         refusedCallsWorkNothing(due);
         due.close();
     }
@@ -52,6 +53,17 @@ public final class WorkedTest {
         due.same("told another set", house.look(5), 0b010101);
         Due.tell(house, 2, Due.def(2), Due.def(1));
         due.same("in another order", house.look(5), 0b000100);
+    }
+
+    private static void eachImportCounts(Due due) {
+        FindingHouse house = new FindingHouse();
+        Due.tell(house, 3, Due.imports(0), Due.imports(1), Due.imports(2));
+        for (int file = 0; file < 3; file++) {
+            house.put(file, 0, Due.def(file));
+            due.same("IMPORT of " + file, house.look(5), 1 << 3 | 1 << file);
+        }
+        house.put(4, 0, Due.def(1));
+        due.same("none IMPORTS it", house.look(5), 1 << 4);
     }
 
     private static void refusedCallsWorkNothing(Due due) {
