@@ -1,3 +1,9 @@
+import java.lang.reflect.Field;
+import java.lang.reflect.Method;
+import java.lang.reflect.Modifier;
+import java.util.ArrayList;
+import java.util.List;
+
 /** Promise 1, and the face of the class. */
 public final class NewHouseTest {
     private static final String[] METHODS = {
@@ -43,27 +49,45 @@ public final class NewHouseTest {
     }
 
     private static void faceIsTheDocuments(Due due) {
-        java.util.List<String> shown = new java.util.ArrayList<>();
-        for (java.lang.reflect.Method method : FindingHouse.class.getDeclaredMethods()) {
-            boolean hidden = java.lang.reflect.Modifier.isPrivate(method.getModifiers());
+        Class<?> house = FindingHouse.class;
+        due.same("public final class", house.getModifiers(), Modifier.PUBLIC | Modifier.FINAL);
+        due.holds("extends nothing", house.getSuperclass() == Object.class);
+        due.same("implements", house.getInterfaces().length, 0);
+        methodsAreTheDocuments(due);
+        int constants = 0;
+        for (Field field : house.getDeclaredFields()) {
+            boolean hidden = Modifier.isPrivate(field.getModifiers());
+            constants += hidden ? 0 : 1;
+            due.holds(field + " is private, or NONE", hidden || isNone(field));
+        }
+        due.same("constants shown", constants, 1);
+        due.same("constructors", house.getDeclaredConstructors().length, 1);
+        due.same("public constructors", house.getConstructors().length, 1);
+        due.same("what the constructor takes", house.getConstructors()[0].getParameterCount(), 0);
+    }
+
+    private static boolean isNone(Field field) {
+        int constant = Modifier.PUBLIC | Modifier.STATIC | Modifier.FINAL;
+        return field.getName().equals("NONE") && field.getType() == int.class && field.getModifiers() == constant;
+    }
+
+    private static void methodsAreTheDocuments(Due due) {
+        List<String> shown = new ArrayList<>();
+        for (Method method : FindingHouse.class.getDeclaredMethods()) {
+            if (Modifier.isPrivate(method.getModifiers())) {
+                continue;
+            }
+            due.same(method + " is public, and an object's", method.getModifiers(), Modifier.PUBLIC);
+            due.same(method + " declares to throw", method.getExceptionTypes().length, 0);
             String types = "";
             for (Class<?> type : method.getParameterTypes()) {
                 types += (types.isEmpty() ? "" : ",") + type.getName();
             }
-            if (!hidden) {
-                shown.add(method.getReturnType().getName() + " " + method.getName() + "(" + types + ")");
-            }
+            shown.add(method.getReturnType().getName() + " " + method.getName() + "(" + types + ")");
         }
         due.same("methods shown " + shown, shown.size(), METHODS.length);
         for (String method : METHODS) {
             due.holds("shows " + method, shown.contains(method));
         }
-        int fields = 0;
-        for (java.lang.reflect.Field field : FindingHouse.class.getDeclaredFields()) {
-            fields += java.lang.reflect.Modifier.isPrivate(field.getModifiers()) ? 0 : 1;
-        }
-        due.same("constants shown", fields, 1);
-        due.same("constructors", FindingHouse.class.getDeclaredConstructors().length, 1);
-        due.holds("final class", java.lang.reflect.Modifier.isFinal(FindingHouse.class.getModifiers()));
     }
 }
